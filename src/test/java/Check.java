@@ -1,0 +1,100 @@
+/** Counts what is as due and tells what is not. */
+final class Check {
+    static final String INDEX = "IndexOutOfBoundsException";
+    static final String ARGUMENT = "IllegalArgumentException";
+    static final String STATE = "IllegalStateException";
+
+    /** A call of the program; what it answers is compared as a text. */
+    interface Call {
+        Object run();
+    }
+
+    private static int promise;
+    private static int asDue;
+    private static int notAsDue;
+
+    private Check() {
+    }
+
+    /** Whatever is asked from here on is asked of this promise. */
+    static void promise(int number) {
+        promise = number;
+    }
+
+    static void due(Object want, Object got) {
+        if (String.valueOf(want).equals(String.valueOf(got))) {
+            asDue++;
+            return;
+        }
+        notAsDue++;
+        System.out.println("promise " + promise + ", " + testThatAsked() + ": answered " + got + ", due is " + want);
+    }
+
+    private static String testThatAsked() {
+        for (StackTraceElement element : new Throwable().getStackTrace()) {
+            if (element.getMethodName().startsWith("promise")) {
+                return element.getMethodName() + " at line " + element.getLineNumber();
+            }
+        }
+        return "some test";
+    }
+
+    static void fails(String exception, Call call) {
+        Object got;
+        try {
+            got = call.run();
+        } catch (RuntimeException e) {
+            got = e.getClass().getSimpleName();
+        }
+        due(exception, got);
+    }
+
+    /** The call throws, and whatever can be asked of the house is answered as before. */
+    static void failsUnchanged(GutterPages house, String exception, Call call) {
+        String before = allOf(house);
+        fails(exception, call);
+        due(before, allOf(house));
+    }
+
+    static String allOf(GutterPages x) {
+        StringBuilder all = new StringBuilder();
+        for (int page = 0; page < x.pages(); page++) {
+            all.append("page ").append(page).append(" rows ").append(x.rows(page));
+            for (int place = 0; place < x.panels(page); place++) {
+                int panel = x.panelAt(page, place);
+                all.append(" panel ").append(panel).append(boxOf(x, panel));
+            }
+        }
+        for (int place = 0; place < x.balloons(); place++) {
+            int balloon = x.read(place);
+            all.append(" balloon ").append(balloon).append(spotOf(x, balloon)).append(x.placeOf(balloon))
+                .append(x.placeByPairs(balloon)).append(x.depth(balloon));
+        }
+        return all.append(x.leaves(4)).append(" at ").append(x.here()).toString();
+    }
+
+    /** Row, left, top, width, height. */
+    static String boxOf(GutterPages x, int panel) {
+        StringBuilder box = new StringBuilder("[");
+        for (int what = 0; what < 5; what++) {
+            box.append(what == 0 ? "" : " ").append(x.lies(panel, what));
+        }
+        return box.append("]").toString();
+    }
+
+    /** Panel, column, line, width, height. */
+    static String spotOf(GutterPages x, int balloon) {
+        StringBuilder spot = new StringBuilder("[");
+        for (int what = 0; what < 5; what++) {
+            spot.append(what == 0 ? "" : " ").append(x.floats(balloon, what));
+        }
+        return spot.append("]").toString();
+    }
+
+    static void close(String name) {
+        System.out.println(name + ": " + asDue + " answers as due, " + notAsDue + " not");
+        if (notAsDue > 0 || asDue == 0) {
+            System.exit(1);
+        }
+    }
+}
