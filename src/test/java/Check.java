@@ -44,9 +44,17 @@ final class Check {
         try {
             got = call.run();
         } catch (RuntimeException e) {
-            got = e.getClass().getSimpleName();
+            got = nameOf(e);
         }
         due(exception, got);
+    }
+
+    /** An exception that the machine or its library throws is not one that the program throws itself. */
+    static String nameOf(Throwable thrown) {
+        StackTraceElement[] stack = thrown.getStackTrace();
+        boolean own = stack.length > 0 && !stack[0].getClassName().startsWith("java")
+            && !stack[0].getClassName().startsWith("jdk");
+        return thrown.getClass().getSimpleName() + (own ? "" : " of the machine");
     }
 
     /** The call throws, and whatever can be asked of the house is answered as before. */

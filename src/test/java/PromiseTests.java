@@ -373,6 +373,14 @@ public final class PromiseTests {
         due(1, x.translate(0, 1));
         due("[0 19 0 5 1][0 13 0 6 3][0 18 3 6 2][0 16 3 2 1]", spotsOf(x, 0, 1, 2, 3));
         due("[0 0 0 24 5]", Check.boxOf(x, 0));
+        GutterPages hole = withWidths(24);
+        hole.face(0, 3, 1, 8);
+        hole.face(0, 20, 1, 8);
+        hole.balloon(0, 0, 6);
+        hole.balloon(0, 1, 2);
+        due("[0 4 0 6 1][0 10 0 2 1]", spotsOf(hole, 0, 1));
+        hole.translate(0, 1);
+        due("[0 14 0 6 1][0 12 0 2 1]", spotsOf(hole, 0, 1));
         GutterPages behind = withWidths(8, 16);
         behind.balloon(0, 0, 12);
         behind.balloon(0, 1, 6);
@@ -477,6 +485,25 @@ public final class PromiseTests {
         due("moved", moveBalloon(x, 4, 0, 0));
         due("[0 0 0 24 3]", Check.boxOf(x, 6));
         due("[0 0 0 6 5]", Check.spotOf(x, 4));
+    }
+
+    /** The first balloon of all is read last and answers. */
+    private static void promise8FirstAnswers() {
+        GutterPages x = withWidths(24, 24);
+        x.balloon(1, 0, 3);
+        x.balloon(0, 0, 3);
+        x.answer(0, 1);
+        Check.promise(4);
+        failsUnchanged(x, STATE, () -> x.movePanel(1, 0));
+        Check.promise(5);
+        failsUnchanged(x, STATE, () -> x.cutPanel(0));
+        Check.promise(8);
+        failsUnchanged(x, STATE, () -> moveBalloon(x, 0, 0, 0));
+        due("moved", moveBalloon(x, 0, 0, 1));
+        Check.promise(9);
+        failsUnchanged(x, STATE, () -> x.cutBalloon(1));
+        due(0, x.cutBalloon(0));
+        due(0, x.cutBalloon(1));
     }
 
     private static void promise9() {
@@ -602,6 +629,9 @@ public final class PromiseTests {
         failsUnchanged(x, STATE, () -> x.setGrowth(0, 161));
         due(3, x.setGrowth(0, 160));
         due("[0 0 0 6 4][2 6 0 6 16]", spotsOf(x, 0, 2));
+        fails(STATE, () -> x.setGrowth(0, 250));
+        x.balloon(1, 0, 15);
+        due("[1 0 0 6 4]", Check.spotOf(x, 3));
     }
 
     private static void promise12Roundings() {
@@ -612,6 +642,7 @@ public final class PromiseTests {
         x.balloon(0, 3, 4);
         x.setGrowth(0, 50);
         due("1 2 3 2", widthsOf(x));
+        due("1 1", x.floats(0, 4) + " " + x.floats(1, 4));
         x.setGrowth(0, 75);
         due("1 3 4 3", widthsOf(x));
         x.setGrowth(0, 101);
@@ -739,6 +770,9 @@ public final class PromiseTests {
         x.answer(1, -1);
         x.movePanel(3, 0);
         readsInOrder(x, 1, 4, 5, 2, 0);
+        x.answer(0, -1);
+        x.moveBalloon(0, 3, 0);
+        readsInOrder(x, 0, 1, 4, 5, 2);
     }
 
     private static void readsInOrder(GutterPages x, int... balloons) {
@@ -859,6 +893,10 @@ public final class PromiseTests {
     private static void promise27() {
         GutterPages x = withPages(6);
         due("0 1 2 3 4 5", leavesOf(x, 4));
+        x.spread(1);
+        due("0 1 2 3 4 5", leavesOf(x, 4));
+        due("0 3 4 5 6 7", leavesOf(x, 8));
+        x.spread(1);
         x.spread(2);
         due("0 1 5 6 7 8", leavesOf(x, 4));
         due("0 1 3 4 5 6", leavesOf(x, 8));
@@ -1039,6 +1077,7 @@ public final class PromiseTests {
         promise8();
         promise8Limits();
         promise8Pages();
+        promise8FirstAnswers();
         Check.promise(9);
         promise9();
         Check.promise(10);

@@ -173,7 +173,7 @@ public final class RandomRuns {
             Method method = object.getClass().getMethod(name, types);
             return String.valueOf(method.invoke(object, boxed));
         } catch (InvocationTargetException e) {
-            return "throws." + e.getCause().getClass().getSimpleName();
+            return "throws." + Check.nameOf(e.getCause());
         } catch (ReflectiveOperationException e) {
             return "no such call: " + e;
         }
