@@ -1,15 +1,20 @@
+import java.util.Set;
+
 /** Counts what is as due and tells what is not. */
 final class Check {
     static final String INDEX = "IndexOutOfBoundsException";
     static final String ARGUMENT = "IllegalArgumentException";
     static final String STATE = "IllegalStateException";
 
+    /** Classes whose methods stand between a test and what it asks. */
+    private static final Set<String> NO_TESTS = Set.of("Check", "Houses", "Edges", "Inquiry");
+
     /** A call of the program; what it answers is compared as a text. */
     interface Call {
         Object run();
     }
 
-    private static int promise;
+    private static String about = "";
     private static int asDue;
     private static int notAsDue;
 
@@ -18,7 +23,16 @@ final class Check {
 
     /** Whatever is asked from here on is asked of this promise. */
     static void promise(int number) {
-        promise = number;
+        about("promise " + number);
+    }
+
+    /** Whatever is asked from here on is asked of this. */
+    static void about(String what) {
+        about = what;
+    }
+
+    static int asked() {
+        return asDue + notAsDue;
     }
 
     static void due(Object want, Object got) {
@@ -27,12 +41,32 @@ final class Check {
             return;
         }
         notAsDue++;
-        System.out.println("promise " + promise + ", " + testThatAsked() + ": answered " + got + ", due is " + want);
+        String is = String.valueOf(got);
+        String asked = String.valueOf(want);
+        int from = isLong(is) && isLong(asked) ? Math.max(firstDifference(is, asked) - 60, 0) : 0;
+        System.out.println(about + ", " + testThatAsked() + ": answered " + partOf(is, from) + ", due is "
+            + partOf(asked, from));
+    }
+
+    private static boolean isLong(String text) {
+        return text.length() > 300;
+    }
+
+    private static int firstDifference(String one, String other) {
+        int at = 0;
+        while (at < one.length() && at < other.length() && one.charAt(at) == other.charAt(at)) {
+            at++;
+        }
+        return at;
+    }
+
+    private static String partOf(String text, int from) {
+        return isLong(text) ? ".. " + text.substring(from, Math.min(from + 160, text.length())) + " .." : text;
     }
 
     private static String testThatAsked() {
         for (StackTraceElement element : new Throwable().getStackTrace()) {
-            if (element.getMethodName().startsWith("promise")) {
+            if (!NO_TESTS.contains(element.getClassName())) {
                 return element.getMethodName() + " at line " + element.getLineNumber();
             }
         }
@@ -57,10 +91,12 @@ final class Check {
         return thrown.getClass().getSimpleName() + (own ? "" : " of the machine");
     }
 
-    /** The call throws, and whatever can be asked of the house is answered as before. */
-    static void failsUnchanged(GutterPages house, String exception, Call call) {
+    /** Each call throws, and what can be asked of the house with few calls is answered as before. */
+    static void failsUnchanged(GutterPages house, String exception, Call... calls) {
         String before = allOf(house);
-        fails(exception, call);
+        for (Call call : calls) {
+            fails(exception, call);
+        }
         due(before, allOf(house));
     }
 

@@ -55,6 +55,17 @@ public final class FaceTest {
     private static final String[] NOT_IN_THE_FILE = {"catch", "finally", "->", "::", "System.", "synchronized",
         "assert", "Exact(", "static {", "package ", "protected ", "Math.random", "@"};
 
+    /** Ahead of which call the interface says what. */
+    private static final String[][] HEADINGS = {
+        {"int page(", "---- pages and panels"},
+        {"int balloon(", "---- balloons"},
+        {"int translate(", "---- tongues"},
+        {"int pages(", "---- where things lie"},
+        {"int balloons(", "---- the order of reading"},
+        {"boolean spread(", "---- spreads and signatures"},
+        {"int open(", "---- the reader"},
+    };
+
     private static final List<String> WRONG = new ArrayList<>();
 
     private FaceTest() {
@@ -146,10 +157,24 @@ public final class FaceTest {
         }
     }
 
+    private static void lookAtHeadings(String path) throws IOException {
+        List<String> lines = Files.readAllLines(Path.of(path), StandardCharsets.ISO_8859_1);
+        for (String[] heading : HEADINGS) {
+            String ahead = "";
+            for (String line : lines) {
+                if (line.startsWith("    public " + heading[0])) {
+                    need(ahead.equals("// " + heading[1]), "ahead of " + heading[0] + " stands " + ahead);
+                }
+                ahead = line.isBlank() ? ahead : line.strip();
+            }
+        }
+    }
+
     public static void main(String[] args) throws IOException {
         lookAtFace();
         lookAtMembers();
         lookAtFile("src/main/java/GutterPages.java");
+        lookAtHeadings("src/main/java/GutterPages.java");
         for (String wrong : WRONG) {
             System.out.println("not so: " + wrong);
         }

@@ -1,76 +1,10 @@
 /** Each promise by hand: ordinary inputs, the edges that the document names, and wrong inputs. */
-public final class PromiseTests {
-    private static final String INDEX = Check.INDEX;
-    private static final String ARGUMENT = Check.ARGUMENT;
-    private static final String STATE = Check.STATE;
-    private static final int LOW = Integer.MIN_VALUE;
-    private static final int HIGH = Integer.MAX_VALUE;
-
+public final class PromiseTests extends Houses {
     private PromiseTests() {
     }
 
-    private static void due(Object want, Object got) {
-        Check.due(want, got);
-    }
-
-    private static void fails(String exception, Check.Call call) {
-        Check.fails(exception, call);
-    }
-
-    private static void failsUnchanged(GutterPages x, String exception, Check.Call call) {
-        Check.failsUnchanged(x, exception, call);
-    }
-
-    private static Object moveBalloon(GutterPages x, int balloon, int panel, int place) {
-        x.moveBalloon(balloon, panel, place);
-        return "moved";
-    }
-
-    private static GutterPages withPages(int count) {
-        GutterPages x = new GutterPages();
-        for (int i = 0; i < count; i++) {
-            x.page();
-        }
-        return x;
-    }
-
-    /** One page with panels of weight 1 and height 3, of these least widths, behind one another. */
-    private static GutterPages withWidths(int... widths) {
-        GutterPages x = withPages(1);
-        for (int i = 0; i < widths.length; i++) {
-            x.panel(0, i, 1, widths[i], 3);
-        }
-        return x;
-    }
-
-    /** One page with whole rows of these heights. */
-    private static GutterPages withRows(int... heights) {
-        GutterPages x = withPages(1);
-        for (int i = 0; i < heights.length; i++) {
-            x.panel(0, i, 1, 24, heights[i]);
-        }
-        return x;
-    }
-
-    /** Panels of 20, 20 and 4 in two rows; the balloons of the first one need all 24 columns. */
-    private static GutterPages withWideBalloons() {
-        GutterPages x = withWidths(20, 20, 4);
-        for (int i = 0; i < 4; i++) {
-            x.balloon(0, i, 60);
-        }
-        return x;
-    }
-
-    /** A panel 8 wide whose balloons need a line more without the first one, on a page 50 high. */
-    private static GutterPages withTightBalloons() {
-        GutterPages x = withRows(12, 12, 12, 11);
-        x.panel(0, 4, 1, 8, 3);
-        x.panel(0, 5, 1, 16, 3);
-        x.balloon(4, 0, 1);
-        x.balloon(4, 1, 1);
-        x.balloon(4, 2, 13);
-        x.balloon(4, 3, 2);
-        return x;
+    private static void failsUnchanged(GutterPages x, String exception, Check.Call... calls) {
+        Check.failsUnchanged(x, exception, calls);
     }
 
     private static void promise1() {
@@ -112,12 +46,9 @@ public final class PromiseTests {
         due("[0 7 0 8 4]", Check.boxOf(x, 2));
         due("[0 15 0 9 4]", Check.boxOf(x, 1));
         due(3, x.panel(1, 0, 9, 24, 12));
-        failsUnchanged(x, INDEX, () -> x.panel(-1, 0, 1, 4, 3));
-        failsUnchanged(x, INDEX, () -> x.panel(2, 0, 1, 4, 3));
-        failsUnchanged(x, INDEX, () -> x.panel(HIGH, 0, 1, 4, 3));
-        failsUnchanged(x, INDEX, () -> x.panel(LOW, 0, 1, 4, 3));
-        failsUnchanged(x, INDEX, () -> x.panel(0, -1, 1, 4, 3));
-        failsUnchanged(x, INDEX, () -> x.panel(0, 4, 1, 4, 3));
+        failsUnchanged(x, INDEX, () -> x.panel(-1, 0, 1, 4, 3), () -> x.panel(2, 0, 1, 4, 3),
+            () -> x.panel(HIGH, 0, 1, 4, 3), () -> x.panel(LOW, 0, 1, 4, 3), () -> x.panel(0, -1, 1, 4, 3),
+            () -> x.panel(0, 4, 1, 4, 3));
         fails(INDEX, () -> x.panel(0, 4, 0, 0, 0));
         fails(ARGUMENT, () -> x.panel(0, 0, 0, 4, 3));
         fails(ARGUMENT, () -> x.panel(0, 0, 10, 4, 3));
@@ -146,8 +77,7 @@ public final class PromiseTests {
 
     private static void promise3Heights() {
         GutterPages high = withRows(12, 12, 12, 12);
-        failsUnchanged(high, STATE, () -> high.panel(0, 4, 1, 24, 3));
-        failsUnchanged(high, STATE, () -> high.panel(0, 0, 1, 24, 3));
+        failsUnchanged(high, STATE, () -> high.panel(0, 4, 1, 24, 3), () -> high.panel(0, 0, 1, 24, 3));
         GutterPages just = withRows(12, 12, 12, 11);
         due(4, just.panel(0, 4, 1, 24, 3));
         due("[4 0 47 24 3]", Check.boxOf(just, 4));
@@ -155,8 +85,7 @@ public final class PromiseTests {
         for (int i = 0; i < 4; i++) {
             tight.balloon(0, i, 60);
         }
-        failsUnchanged(tight, STATE, () -> tight.panel(0, 1, 1, 4, 3));
-        failsUnchanged(tight, STATE, () -> tight.panel(0, 0, 1, 4, 3));
+        failsUnchanged(tight, STATE, () -> tight.panel(0, 1, 1, 4, 3), () -> tight.panel(0, 0, 1, 4, 3));
         due(1, tight.panel(0, 0, 1, 5, 3));
     }
 
@@ -192,17 +121,13 @@ public final class PromiseTests {
         due("[0 0 0 9 3][0 9 0 7 3][0 16 0 8 3]", Check.boxOf(x, 2) + Check.boxOf(x, 0) + Check.boxOf(x, 1));
         due(2, x.movePanel(0, 2));
         due("2 1 0", x.panelAt(0, 0) + " " + x.panelAt(0, 1) + " " + x.panelAt(0, 2));
-        failsUnchanged(x, INDEX, () -> x.movePanel(-1, 0));
-        failsUnchanged(x, INDEX, () -> x.movePanel(3, 0));
-        failsUnchanged(x, INDEX, () -> x.movePanel(0, -1));
-        failsUnchanged(x, INDEX, () -> x.movePanel(0, 3));
-        failsUnchanged(x, INDEX, () -> x.movePanel(0, HIGH));
+        failsUnchanged(x, INDEX, () -> x.movePanel(-1, 0), () -> x.movePanel(3, 0), () -> x.movePanel(0, -1),
+            () -> x.movePanel(0, 3), () -> x.movePanel(0, HIGH));
         x.cutPanel(1);
         fails(INDEX, () -> x.movePanel(1, 0));
         fails(INDEX, () -> x.movePanel(0, 2));
         GutterPages wide = withWideBalloons();
-        failsUnchanged(wide, STATE, () -> wide.movePanel(2, 0));
-        failsUnchanged(wide, STATE, () -> wide.movePanel(1, 0));
+        failsUnchanged(wide, STATE, () -> wide.movePanel(2, 0), () -> wide.movePanel(1, 0));
         due(3, wide.movePanel(0, 2));
     }
 
@@ -225,8 +150,7 @@ public final class PromiseTests {
         answers.balloon(0, 0, 5);
         answers.balloon(1, 0, 5);
         answers.answer(1, 0);
-        failsUnchanged(answers, STATE, () -> answers.movePanel(0, 1));
-        failsUnchanged(answers, STATE, () -> answers.movePanel(1, 0));
+        failsUnchanged(answers, STATE, () -> answers.movePanel(0, 1), () -> answers.movePanel(1, 0));
         answers.answer(1, -1);
         due(2, answers.movePanel(0, 1));
         due("1 0", answers.read(0) + " " + answers.read(1));
@@ -246,10 +170,8 @@ public final class PromiseTests {
         due(2, x.balloons());
         due(2, x.panels(0));
         due("[0 0 0 24 3][1 0 3 24 3]", Check.boxOf(x, 1) + Check.boxOf(x, 2));
-        failsUnchanged(x, INDEX, () -> x.cutPanel(0));
-        failsUnchanged(x, INDEX, () -> x.cutPanel(-1));
-        failsUnchanged(x, INDEX, () -> x.cutPanel(3));
-        failsUnchanged(x, INDEX, () -> x.cutPanel(HIGH));
+        failsUnchanged(x, INDEX, () -> x.cutPanel(0), () -> x.cutPanel(-1), () -> x.cutPanel(3),
+            () -> x.cutPanel(HIGH));
         fails(INDEX, () -> x.floats(0, 0));
         fails(INDEX, () -> x.placeOf(1));
         fails(INDEX, () -> x.cell(0, 0, 0));
@@ -276,14 +198,9 @@ public final class PromiseTests {
         fails(ARGUMENT, () -> x.face(0, 24, 1, 1));
         due(5, x.face(1, 2, 3, 8));
         due("-1 -2 -2 -1", x.cell(1, 1, 0) + " " + x.cell(1, 2, 0) + " " + x.cell(1, 4, 4) + " " + x.cell(1, 5, 4));
-        failsUnchanged(x, ARGUMENT, () -> x.face(1, -1, 1, 1));
-        failsUnchanged(x, ARGUMENT, () -> x.face(1, 24, 1, 1));
-        failsUnchanged(x, ARGUMENT, () -> x.face(1, 0, 0, 1));
-        failsUnchanged(x, ARGUMENT, () -> x.face(1, 0, 25, 1));
-        failsUnchanged(x, ARGUMENT, () -> x.face(1, 0, 1, 0));
-        failsUnchanged(x, ARGUMENT, () -> x.face(1, 0, 1, 9));
-        failsUnchanged(x, INDEX, () -> x.face(-1, -1, 1, 1));
-        failsUnchanged(x, INDEX, () -> x.face(3, 0, 1, 9));
+        failsUnchanged(x, ARGUMENT, () -> x.face(1, -1, 1, 1), () -> x.face(1, 24, 1, 1), () -> x.face(1, 0, 0, 1),
+            () -> x.face(1, 0, 25, 1), () -> x.face(1, 0, 1, 0), () -> x.face(1, 0, 1, 9));
+        failsUnchanged(x, INDEX, () -> x.face(-1, -1, 1, 1), () -> x.face(3, 0, 1, 9));
         x.cutPanel(1);
         fails(INDEX, () -> x.face(1, 0, 1, 1));
         due(3, x.face(2, 0, 24, 1));
@@ -318,16 +235,12 @@ public final class PromiseTests {
         due("[0 0 0 8 5]", Check.boxOf(x, 0));
         due(3, x.balloon(0, 2, 2));
         due("[0 6 2 2 1]", Check.spotOf(x, 3));
-        failsUnchanged(x, STATE, () -> x.balloon(0, 4, 1));
-        failsUnchanged(x, INDEX, () -> x.balloon(0, 5, 1));
+        fails(STATE, () -> x.balloon(0, 4, 1));
+        fails(INDEX, () -> x.balloon(0, 5, 1));
         fails(ARGUMENT, () -> x.balloon(0, 4, 0));
-        failsUnchanged(x, INDEX, () -> x.balloon(1, 1, 0));
-        failsUnchanged(x, INDEX, () -> x.balloon(1, -1, 1));
-        failsUnchanged(x, INDEX, () -> x.balloon(2, 0, 1));
-        failsUnchanged(x, INDEX, () -> x.balloon(-1, 0, 1));
-        failsUnchanged(x, ARGUMENT, () -> x.balloon(1, 0, 0));
-        failsUnchanged(x, ARGUMENT, () -> x.balloon(1, 0, 61));
-        failsUnchanged(x, ARGUMENT, () -> x.balloon(1, 0, HIGH));
+        failsUnchanged(x, INDEX, () -> x.balloon(1, 1, 0), () -> x.balloon(1, -1, 1), () -> x.balloon(2, 0, 1),
+            () -> x.balloon(-1, 0, 1));
+        failsUnchanged(x, ARGUMENT, () -> x.balloon(1, 0, 0), () -> x.balloon(1, 0, 61), () -> x.balloon(1, 0, HIGH));
         due(4, x.balloon(1, 0, 60));
         due("[1 0 0 6 10]", Check.spotOf(x, 4));
         due("[0 0 0 8 10]", Check.boxOf(x, 0));
@@ -396,14 +309,6 @@ public final class PromiseTests {
         x.balloon(panel, 3, 2);
     }
 
-    private static String spotsOf(GutterPages x, int... balloons) {
-        StringBuilder spots = new StringBuilder();
-        for (int balloon : balloons) {
-            spots.append(Check.spotOf(x, balloon));
-        }
-        return spots.toString();
-    }
-
     /** The balloons fit at the heights 3 and 5, but not at 4, where the second one is in the third's way. */
     private static void promise7Heights() {
         for (int height = 3; height <= 6; height++) {
@@ -432,14 +337,9 @@ public final class PromiseTests {
         due("1 0 2", x.read(0) + " " + x.read(1) + " " + x.read(2));
         x.moveBalloon(0, 1, 1);
         due("[1 0 0 3 1][1 3 0 6 1]", spotsOf(x, 2, 0));
-        failsUnchanged(x, INDEX, () -> moveBalloon(x, 0, 1, 2));
-        failsUnchanged(x, INDEX, () -> moveBalloon(x, 0, 1, -1));
-        failsUnchanged(x, INDEX, () -> moveBalloon(x, 0, 2, 1));
-        failsUnchanged(x, INDEX, () -> moveBalloon(x, 0, 2, -1));
-        failsUnchanged(x, INDEX, () -> moveBalloon(x, -1, 2, 0));
-        failsUnchanged(x, INDEX, () -> moveBalloon(x, 3, 2, 0));
-        failsUnchanged(x, INDEX, () -> moveBalloon(x, 0, -1, 0));
-        failsUnchanged(x, INDEX, () -> moveBalloon(x, 0, 3, 0));
+        failsUnchanged(x, INDEX, () -> moveBalloon(x, 0, 1, 2), () -> moveBalloon(x, 0, 1, -1),
+            () -> moveBalloon(x, 0, 2, 1), () -> moveBalloon(x, 0, 2, -1), () -> moveBalloon(x, -1, 2, 0),
+            () -> moveBalloon(x, 3, 2, 0), () -> moveBalloon(x, 0, -1, 0), () -> moveBalloon(x, 0, 3, 0));
         x.moveBalloon(1, 1, 2);
         due("[1 0 0 3 1][1 3 0 6 1][1 0 1 6 2]", spotsOf(x, 2, 0, 1));
         x.cutBalloon(2);
@@ -454,19 +354,16 @@ public final class PromiseTests {
             x.balloon(0, i, 1);
         }
         x.balloon(1, 0, 1);
-        failsUnchanged(x, STATE, () -> moveBalloon(x, 4, 0, 0));
-        failsUnchanged(x, STATE, () -> moveBalloon(x, 4, 0, 4));
-        failsUnchanged(x, INDEX, () -> moveBalloon(x, 4, 0, 5));
-        failsUnchanged(x, INDEX, () -> moveBalloon(x, 0, 0, 4));
+        failsUnchanged(x, STATE, () -> moveBalloon(x, 4, 0, 0), () -> moveBalloon(x, 4, 0, 4));
+        failsUnchanged(x, INDEX, () -> moveBalloon(x, 4, 0, 5), () -> moveBalloon(x, 0, 0, 4));
         due("moved", moveBalloon(x, 0, 0, 3));
         due("1 2 3 0 4", x.read(0) + " " + x.read(1) + " " + x.read(2) + " " + x.read(3) + " " + x.read(4));
         x.answer(0, 3);
         x.answer(4, 0);
-        failsUnchanged(x, STATE, () -> moveBalloon(x, 0, 0, 2));
-        failsUnchanged(x, STATE, () -> moveBalloon(x, 0, 1, 1));
-        failsUnchanged(x, STATE, () -> moveBalloon(x, 3, 1, 0));
+        failsUnchanged(x, STATE, () -> moveBalloon(x, 0, 0, 2), () -> moveBalloon(x, 0, 1, 1),
+            () -> moveBalloon(x, 3, 1, 0));
         due("moved", moveBalloon(x, 0, 1, 0));
-        failsUnchanged(x, STATE, () -> moveBalloon(x, 4, 0, 0));
+        fails(STATE, () -> moveBalloon(x, 4, 0, 0));
         due("moved", moveBalloon(x, 1, 1, 2));
         due("2 3 0 4 1", x.read(0) + " " + x.read(1) + " " + x.read(2) + " " + x.read(3) + " " + x.read(4));
     }
@@ -475,8 +372,7 @@ public final class PromiseTests {
         GutterPages x = withTightBalloons();
         x.page();
         x.panel(1, 0, 1, 24, 3);
-        failsUnchanged(x, STATE, () -> moveBalloon(x, 0, 5, 0));
-        failsUnchanged(x, STATE, () -> moveBalloon(x, 0, 6, 0));
+        failsUnchanged(x, STATE, () -> moveBalloon(x, 0, 5, 0), () -> moveBalloon(x, 0, 6, 0));
         due("moved", moveBalloon(x, 3, 6, 0));
         due("[6 0 0 2 1]", Check.spotOf(x, 3));
         due(4, x.balloon(6, 0, 30));
@@ -514,16 +410,13 @@ public final class PromiseTests {
         x.balloon(1, 2, 30);
         x.answer(1, 0);
         x.answer(2, 1);
-        failsUnchanged(x, STATE, () -> x.cutBalloon(0));
-        failsUnchanged(x, STATE, () -> x.cutBalloon(1));
+        failsUnchanged(x, STATE, () -> x.cutBalloon(0), () -> x.cutBalloon(1));
         due(5, x.lies(1, 4));
         due(1, x.cutBalloon(3));
         due(3, x.lies(1, 4));
         due(1, x.cutBalloon(2));
-        failsUnchanged(x, INDEX, () -> x.cutBalloon(2));
-        failsUnchanged(x, INDEX, () -> x.cutBalloon(-1));
-        failsUnchanged(x, INDEX, () -> x.cutBalloon(4));
-        failsUnchanged(x, INDEX, () -> x.cutBalloon(LOW));
+        failsUnchanged(x, INDEX, () -> x.cutBalloon(2), () -> x.cutBalloon(-1), () -> x.cutBalloon(4),
+            () -> x.cutBalloon(LOW));
         due(1, x.cutBalloon(1));
         due(0, x.cutBalloon(0));
         due(0, x.balloons());
@@ -551,21 +444,13 @@ public final class PromiseTests {
         due(-1, x.answer(3, -1));
         due(-1, x.answer(1, 0));
         due(-1, x.answer(2, 1));
-        failsUnchanged(x, STATE, () -> x.answer(2, 3));
-        failsUnchanged(x, STATE, () -> x.answer(0, 0));
-        failsUnchanged(x, STATE, () -> x.answer(0, 1));
-        failsUnchanged(x, STATE, () -> x.answer(1, 2));
-        failsUnchanged(x, STATE, () -> x.answer(2, 2));
-        failsUnchanged(x, INDEX, () -> x.answer(-1, 0));
-        failsUnchanged(x, INDEX, () -> x.answer(4, 0));
-        failsUnchanged(x, INDEX, () -> x.answer(0, 4));
-        failsUnchanged(x, INDEX, () -> x.answer(0, -2));
-        failsUnchanged(x, INDEX, () -> x.answer(0, LOW));
-        failsUnchanged(x, INDEX, () -> x.answer(4, -1));
+        failsUnchanged(x, STATE, () -> x.answer(2, 3), () -> x.answer(0, 0), () -> x.answer(0, 1),
+            () -> x.answer(1, 2), () -> x.answer(2, 2));
+        failsUnchanged(x, INDEX, () -> x.answer(-1, 0), () -> x.answer(4, 0), () -> x.answer(0, 4),
+            () -> x.answer(0, -2), () -> x.answer(0, LOW), () -> x.answer(4, -1));
         due(1, x.answer(2, 0));
         x.cutBalloon(3);
-        failsUnchanged(x, INDEX, () -> x.answer(3, 0));
-        failsUnchanged(x, INDEX, () -> x.answer(2, 3));
+        failsUnchanged(x, INDEX, () -> x.answer(3, 0), () -> x.answer(2, 3));
         due(0, x.answer(2, -1));
     }
 
@@ -580,11 +465,8 @@ public final class PromiseTests {
         due("[0 0 0 7 3]", Check.boxOf(x, 0));
         due(0, x.translate(0, 0));
         due(2, withWidths(8, 8, 8).translate(0, 1));
-        failsUnchanged(x, INDEX, () -> x.translate(-1, 0));
-        failsUnchanged(x, INDEX, () -> x.translate(1, 3));
-        failsUnchanged(x, ARGUMENT, () -> x.translate(0, -1));
-        failsUnchanged(x, ARGUMENT, () -> x.translate(0, 3));
-        failsUnchanged(x, ARGUMENT, () -> x.translate(0, HIGH));
+        failsUnchanged(x, INDEX, () -> x.translate(-1, 0), () -> x.translate(1, 3));
+        failsUnchanged(x, ARGUMENT, () -> x.translate(0, -1), () -> x.translate(0, 3), () -> x.translate(0, HIGH));
         x.balloon(0, 0, 12);
         due(0, x.setGrowth(2, 200));
         due(4, x.translate(0, 2));
@@ -620,11 +502,8 @@ public final class PromiseTests {
         due(1, x.translate(1, 0));
         due(1, x.setGrowth(0, 250));
         due(3, x.translate(0, 0) + x.setGrowth(0, 50));
-        failsUnchanged(x, ARGUMENT, () -> x.setGrowth(-1, 100));
-        failsUnchanged(x, ARGUMENT, () -> x.setGrowth(3, 100));
-        failsUnchanged(x, ARGUMENT, () -> x.setGrowth(0, 49));
-        failsUnchanged(x, ARGUMENT, () -> x.setGrowth(0, 251));
-        failsUnchanged(x, ARGUMENT, () -> x.setGrowth(HIGH, LOW));
+        failsUnchanged(x, ARGUMENT, () -> x.setGrowth(-1, 100), () -> x.setGrowth(3, 100), () -> x.setGrowth(0, 49),
+            () -> x.setGrowth(0, 251), () -> x.setGrowth(HIGH, LOW));
         x.balloon(2, 1, 60);
         failsUnchanged(x, STATE, () -> x.setGrowth(0, 161));
         due(3, x.setGrowth(0, 160));
@@ -826,18 +705,13 @@ public final class PromiseTests {
         GutterPages x = withPages(5);
         due(true, x.spread(1));
         due(5, x.leaf(1, 12));
-        failsUnchanged(x, STATE, () -> x.spread(0));
-        failsUnchanged(x, STATE, () -> x.spread(2));
+        failsUnchanged(x, STATE, () -> x.spread(0), () -> x.spread(2));
         due(true, x.spread(3));
-        failsUnchanged(x, INDEX, () -> x.spread(4));
-        failsUnchanged(x, INDEX, () -> x.spread(-1));
-        failsUnchanged(x, INDEX, () -> x.spread(5));
-        failsUnchanged(x, INDEX, () -> x.spread(HIGH));
+        failsUnchanged(x, INDEX, () -> x.spread(4), () -> x.spread(-1), () -> x.spread(5), () -> x.spread(HIGH));
         due(false, x.spread(1));
         due(true, x.spread(0));
         due(1, x.leaf(0, 4));
-        failsUnchanged(x, STATE, () -> x.spread(1));
-        failsUnchanged(x, STATE, () -> x.spread(2));
+        failsUnchanged(x, STATE, () -> x.spread(1), () -> x.spread(2));
         due(false, x.spread(0));
         due(false, x.spread(3));
         due(true, x.spread(2));
@@ -847,26 +721,6 @@ public final class PromiseTests {
         due(true, x.spread(4));
         fails(INDEX, () -> withPages(1).spread(0));
         fails(INDEX, () -> new GutterPages().spread(0));
-    }
-
-    private static String leavesOf(GutterPages x, int size) {
-        StringBuilder all = new StringBuilder();
-        for (int page = 0; page < x.pages(); page++) {
-            all.append(page == 0 ? "" : " ").append(x.leaf(page, size));
-        }
-        return all.toString();
-    }
-
-    private static String sidesOf(GutterPages x, int size) {
-        StringBuilder all = new StringBuilder();
-        for (int page = 0; page < x.pages(); page++) {
-            all.append(page == 0 ? "" : " ").append(x.beside(page, size)).append("/").append(x.sheet(page, size));
-        }
-        return all.toString();
-    }
-
-    private static String sizesOf(GutterPages x) {
-        return x.leaves(4) + " " + x.leaves(8) + " " + x.leaves(12) + " " + x.leaves(16);
     }
 
     private static void promise26() {
